@@ -1,11 +1,11 @@
 /**
  * Ideals of polynomials in four variables that are 0 or 1.
  *
- * A polynomial whose value is 0 at all zeros is in the ideal: where a generator
- * is 1, its product with the polynomial that is 1 at that point alone is in the
- * ideal, and such products make up every polynomial that is 0 at the zeros. So
- * the zeros say all there is to know about the ideal, and everything else is
- * worked out from them.
+ * The ideal consists of exactly the polynomials that are 0 at all zeros. At a
+ * point that is no zero some generator is 1; its product with the polynomial
+ * that is 1 at that point alone is that polynomial itself, and every polynomial
+ * that is 0 at all zeros is a sum of such ones. So all answers about the ideal
+ * can be worked out from its zeros.
  */
 public final class BooleanBasis {
     public static final int NONE = -1;
