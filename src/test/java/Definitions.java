@@ -134,6 +134,27 @@ final class Definitions {
             return found;
         }
 
+        /** The rest of every polynomial at once. */
+        int[] rests() {
+            int[] rests = new int[65536];
+            java.util.Arrays.fill(rests, -1);
+            for (int f = 0; f < 65536; f++) {
+                if ((f & bound) == 0) {
+                    setAsRest(f, rests);
+                }
+            }
+            return rests;
+        }
+
+        private void setAsRest(int f, int[] rests) {
+            for (int k = 0; k < count; k++) {
+                if (rests[f ^ members[k]] != -1) {
+                    throw new IllegalStateException("two rests of " + (f ^ members[k]));
+                }
+                rests[f ^ members[k]] = f;
+            }
+        }
+
         boolean relates(int vars) {
             int allowed = 0;
             for (int m = 0; m < 16; m++) {
