@@ -74,7 +74,8 @@ public final class PromisesEdgesTest {
         State none = State.of("no generator");
         Supply supply = new Supply(due, "a new object: ", List.of());
         supply.ask(none.questions());
-        supply.askEveryPolynomial(none);
+        supply.ask(none.questionsOutside());
+        supply.askEveryContainsAndRest(none.everyContainsAndRest());
         // A new object is new also when another one has generators.
         with(due, ALL_OF_SIX);
         new Supply(due, "another new object: ", List.of()).ask(none.questions());

@@ -27,15 +27,13 @@ public final class RefusedCallsTest {
         State.of("five, number 5 is free", 6, 20, 128, 20, 8, 0).remove(5),
         State.of("two, number 1 is free", 2, 0, 16).remove(1));
 
-    // For each of STATES, states that can come behind it.
-    private static final List<List<State>> LATER = new ArrayList<>();
+    // One for each of STATES.
+    private static final List<Start> STARTS = new ArrayList<>();
 
     private static final Sentences SENTENCES = new Sentences();
 
     public static void main(String[] args) {
-        for (State state : STATES) {
-            LATER.add(statesBehind(state));
-        }
+        SENTENCES.test("all states can be made", RefusedCallsTest::recordAnswers);
         refuses("2: NONE when f is not 0 .. 65535", RefusedCallsTest::addOfNoPolynomial);
         refuses("2: FULL when there are six", RefusedCallsTest::addToSix);
         refuses("3: false, changing nothing, when there is none", RefusedCallsTest::removeOfNone);
@@ -56,6 +54,37 @@ public final class RefusedCallsTest {
 
     private interface Refusals {
         List<Call> in(State state);
+    }
+
+    /** The answers in a state that no refused call led to. */
+    private record Answers(State state, List<Call> questions) {
+    }
+
+    /** A state in which calls are refused, with all its answers and what can come behind it. */
+    private record Start(Answers here, int[] containsAndRest, List<Answers> later) {
+        State state() {
+            return here.state();
+        }
+    }
+
+    private static void recordAnswers(Due due) {
+        for (State state : STATES) {
+            List<Answers> later = new ArrayList<>();
+            for (State next : statesBehind(state)) {
+                later.add(answersIn(due, next));
+            }
+            int[] containsAndRest = supplyOf(due, state).everyContainsAndRest();
+            STARTS.add(new Start(answersIn(due, state), containsAndRest, later));
+        }
+    }
+
+    /** What the program itself answers: other tests look whether that is right. */
+    private static Answers answersIn(Due due, State state) {
+        return new Answers(state, supplyOf(due, state).recorded(state.questions()));
+    }
+
+    private static Supply supplyOf(Due due, State state) {
+        return new Supply(due, state.name() + ": ", state.steps());
     }
 
     private static void refuses(String sentence, Refusals refusals) {
@@ -196,9 +225,9 @@ public final class RefusedCallsTest {
 
     private static void behindEach(Due due, Refusals refusals) {
         int count = 0;
-        for (int k = 0; k < STATES.size(); k++) {
-            for (Call refused : refusals.in(STATES.get(k))) {
-                behind(due, k, refused);
+        for (Start start : STARTS) {
+            for (Call refused : refusals.in(start.state())) {
+                behind(due, start, refused);
                 count++;
             }
         }
@@ -207,30 +236,34 @@ public final class RefusedCallsTest {
         }
     }
 
-    private static void behind(Due due, int k, Call refused) {
-        State state = STATES.get(k);
-        String where = state.name() + ", " + refused.name() + ": ";
-        List<Call> questions = state.questions();
-        List<Call> asked = new ArrayList<>(state.steps());
-        asked.addAll(questions);
-        asked.add(refused);
-        new Supply(due, where, asked).ask(questions);
-        List<Call> unasked = new ArrayList<>(state.steps());
-        unasked.add(refused);
-        new Supply(due, where, unasked).askEveryPolynomial(state);
-        for (State later : LATER.get(k)) {
-            changedBehind(due, state, List.of(refused), later, refused.name());
+    private static void behind(Due due, Start start, Call refused) {
+        List<Call> questions = start.here().questions();
+        List<Call> calls = new ArrayList<>(start.state().steps());
+        calls.addAll(questions);
+        calls.add(refused);
+        new Supply(due, start.state().name() + ", " + refused.name() + ": ", calls).ask(questions);
+        everythingBehind(due, start, List.of(refused), refused.name());
+    }
+
+    private static void everythingBehind(Due due, Start start, List<Call> refused, String called) {
+        List<Call> calls = new ArrayList<>(start.state().steps());
+        calls.addAll(refused);
+        String where = start.state().name() + ", " + called + ": ";
+        new Supply(due, where, calls).ask(start.here().questions());
+        new Supply(due, where, calls).askEveryContainsAndRest(start.containsAndRest());
+        for (Answers later : start.later()) {
+            changedBehind(due, start.state(), refused, later, called);
         }
     }
 
     /** What a refused call left behind may show only when the generators change. */
-    private static void changedBehind(Due due, State state, List<Call> refused, State later, String called) {
-        List<Call> steps = later.steps();
+    private static void changedBehind(Due due, State state, List<Call> refused, Answers later, String called) {
+        List<Call> steps = later.state().steps();
         int here = state.steps().size();
         List<Call> calls = new ArrayList<>(steps.subList(0, here));
         calls.addAll(refused);
         calls.addAll(steps.subList(here, steps.size()));
-        new Supply(due, later.name() + " behind " + called + ": ", calls).ask(later.questions());
+        new Supply(due, later.state().name() + " behind " + called + ": ", calls).ask(later.questions());
     }
 
     private static List<State> statesBehind(State state) {
@@ -253,32 +286,24 @@ public final class RefusedCallsTest {
     }
 
     private static void noneBeforeFull(Due due) {
-        for (int k = 0; k < STATES.size(); k++) {
-            State state = STATES.get(k);
+        for (Start start : STARTS) {
+            State state = start.state();
             if (state.isFull()) {
-                for (Call refused : addOfNoPolynomial(state)) {
-                    List<Call> calls = new ArrayList<>(state.steps());
-                    calls.add(refused);
-                    calls.addAll(addToSix(state));
-                    calls.add(refused);
-                    new Supply(due, state.name() + ", six: ", calls).ask(state.questions());
-                }
+                List<Call> refused = new ArrayList<>(addOfNoPolynomial(state));
+                refused.addAll(addToSix(state));
+                refused.addAll(addOfNoPolynomial(state));
+                everythingBehind(due, start, refused, "add of wrong and right numbers");
             }
         }
     }
 
     private static void allInOneRun(Due due) {
-        for (int k = 0; k < STATES.size(); k++) {
-            State state = STATES.get(k);
-            List<Call> refused = allRefusedIn(state);
-            List<Call> calls = new ArrayList<>(state.steps());
+        for (Start start : STARTS) {
+            List<Call> refused = allRefusedIn(start.state());
+            everythingBehind(due, start, refused, "all refused calls");
+            List<Call> calls = new ArrayList<>(start.state().steps());
             calls.addAll(refused);
-            String where = state.name() + ", all refused calls: ";
-            new Supply(due, where, calls).ask(state.questions());
-            new Supply(due, where, calls).askEveryPolynomial(state);
-            for (State later : LATER.get(k)) {
-                changedBehind(due, state, refused, later, "all refused calls");
-            }
+            new Supply(due, start.state().name() + ", all refused calls twice: ", calls).ask(refused);
         }
     }
 

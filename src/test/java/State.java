@@ -15,7 +15,6 @@ final class State {
     private Definitions.Ideal ideal;
     private int[] basis;
     private int[] rests;
-    private List<Call> questions;
 
     private State(String name) {
         this.name = name;
@@ -41,7 +40,7 @@ final class State {
         int number = leastFree();
         held[number] = f;
         steps.add(new Call("add(" + f + ")", x -> x.add(f), number));
-        forget();
+        ideal = null;
         return this;
     }
 
@@ -51,13 +50,8 @@ final class State {
         }
         held[i] = -1;
         steps.add(Call.of("remove(" + i + ")", x -> x.remove(i), true));
-        forget();
-        return this;
-    }
-
-    private void forget() {
         ideal = null;
-        questions = null;
+        return this;
     }
 
     private int leastFree() {
@@ -157,66 +151,82 @@ final class State {
         return Arrays.copyOf(found, count);
     }
 
-    /** Every question but contains and rest of each polynomial: of those, the ends and the monomials. */
-    List<Call> questions() {
-        if (questions == null) {
-            workOut();
-            questions = allQuestions();
+    /** Answers to contains(f) at 2f, to rest(f) at 2f + 1. */
+    int[] everyContainsAndRest() {
+        int[] answers = new int[131072];
+        for (int f = 0; f < 65536; f++) {
+            answers[2 * f] = contains(f) ? 1 : 0;
+            answers[2 * f + 1] = rest(f);
         }
-        return questions;
+        return answers;
     }
 
-    private List<Call> allQuestions() {
+    /**
+     * All questions with numbers inside their bounds; of the many polynomials
+     * the ends and the monomials.
+     */
+    List<Call> questions() {
+        workOut();
         List<Call> asked = new ArrayList<>();
         asked.add(new Call("generators()", x -> x.generators(), generators()));
         asked.add(new Call("basisSize()", x -> x.basisSize(), basisSize()));
         asked.add(new Call("bound()", x -> x.bound(), ideal.bound()));
         asked.add(new Call("zeros()", x -> x.zeros(), zeros()));
         asked.add(new Call("zeroCount()", x -> x.zeroCount(), Integer.bitCount(zeros())));
-        for (int i : within(-1, 7)) {
-            asked.add(new Call("basisAt(" + i + ")", x -> x.basisAt(i), basisAt(i)));
-            asked.add(Call.of("redundant(" + i + ")", x -> x.redundant(i), redundant(i)));
-        }
-        for (int i : within(-1, 4)) {
-            asked.add(new Call("values(" + i + ")", x -> x.values(i), values(i)));
-        }
-        for (int vars : within(-1, 16)) {
-            asked.add(Call.of("relates(" + vars + ")", x -> x.relates(vars), relates(vars)));
-        }
-        for (int f : somePolynomials()) {
-            asked.add(Call.of("contains(" + f + ")", x -> x.contains(f), contains(f)));
-            asked.add(new Call("rest(" + f + ")", x -> x.rest(f), rest(f)));
-        }
-        addFixedQuestions(asked);
+        asked.add(new Call("product(6, 18)", x -> x.product(6, 18), 2 ^ 8 ^ 32 ^ 64));
+        asked.add(new Call("product(65535, 65535)", x -> x.product(65535, 65535), 65535));
+        asked.add(new Call("value(32768, 15)", x -> x.value(32768, 15), 1));
+        asked.add(new Call("value(65535, 15)", x -> x.value(65535, 15), 0));
+        askWith(asked, new int[] {0, 1, 2, 3, 4, 5}, "basisAt", "redundant");
+        askWith(asked, new int[] {0, 1, 2, 3}, "values");
+        askWith(asked, new int[] {0, 1, 2, 3, 4, 5, 6, 7, 8, 9, 10, 11, 12, 13, 14, 15}, "relates");
+        askWith(asked, endsAndMonomials(), "contains", "rest");
         return asked;
     }
 
-    /** These have the same answers in every state. */
-    private static void addFixedQuestions(List<Call> asked) {
-        asked.add(new Call("product(6, 18)", x -> x.product(6, 18), 2 ^ 8 ^ 32 ^ 64));
-        asked.add(new Call("product(65535, 65535)", x -> x.product(65535, 65535), 65535));
+    /** Questions with numbers outside their bounds. */
+    List<Call> questionsOutside() {
+        List<Call> asked = new ArrayList<>();
         asked.add(new Call("product(65536, 1)", x -> x.product(65536, 1), -1));
-        asked.add(new Call("value(32768, 15)", x -> x.value(32768, 15), 1));
-        asked.add(new Call("value(65535, 15)", x -> x.value(65535, 15), 0));
+        asked.add(new Call("product(1, -1)", x -> x.product(1, -1), -1));
+        asked.add(new Call("value(65536, 1)", x -> x.value(65536, 1), -1));
         asked.add(new Call("value(1, 16)", x -> x.value(1, 16), -1));
+        askWith(asked, Edges.NO_PLACE, "basisAt");
+        askWith(asked, Edges.NO_GENERATOR, "redundant");
+        askWith(asked, Edges.NO_VARIABLE, "values");
+        askWith(asked, Edges.NO_POINT, "relates");
+        askWith(asked, Edges.NO_POLYNOMIAL, "contains", "rest");
+        return asked;
     }
 
-    private static int[] within(int first, int last) {
-        int[] numbers = new int[last - first + 3];
-        for (int k = 0; k <= last - first; k++) {
-            numbers[k] = first + k;
+    private void askWith(List<Call> asked, int[] numbers, String... methods) {
+        for (String method : methods) {
+            for (int number : numbers) {
+                asked.add(question(method, number));
+            }
         }
-        numbers[last - first + 1] = Integer.MIN_VALUE;
-        numbers[last - first + 2] = Integer.MAX_VALUE;
-        return numbers;
     }
 
-    private static int[] somePolynomials() {
-        int[] chosen = {0, 65534, 65535, -1, 65536, Integer.MIN_VALUE, Integer.MAX_VALUE};
-        int[] all = Arrays.copyOf(chosen, chosen.length + 16);
+    private Call question(String method, int n) {
+        String call = method + "(" + n + ")";
+        return switch (method) {
+            case "basisAt" -> new Call(call, x -> x.basisAt(n), basisAt(n));
+            case "redundant" -> Call.of(call, x -> x.redundant(n), redundant(n));
+            case "values" -> new Call(call, x -> x.values(n), values(n));
+            case "relates" -> Call.of(call, x -> x.relates(n), relates(n));
+            case "contains" -> Call.of(call, x -> x.contains(n), contains(n));
+            case "rest" -> new Call(call, x -> x.rest(n), rest(n));
+            default -> throw new IllegalStateException(method);
+        };
+    }
+
+    private static int[] endsAndMonomials() {
+        int[] polynomials = new int[19];
+        polynomials[1] = 65534;
+        polynomials[2] = 65535;
         for (int m = 0; m < 16; m++) {
-            all[chosen.length + m] = 1 << m;
+            polynomials[3 + m] = 1 << m;
         }
-        return all;
+        return polynomials;
     }
 }

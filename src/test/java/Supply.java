@@ -1,3 +1,4 @@
+import java.util.ArrayList;
 import java.util.List;
 
 /**
@@ -41,14 +42,32 @@ final class Supply {
         }
     }
 
-    void askEveryPolynomial(State state) {
+    /** The same questions, with the answers that are given now as those due. */
+    List<Call> recorded(List<Call> questions) {
+        List<Call> recorded = new ArrayList<>();
+        for (Call question : questions) {
+            int answer = question.made().applyAsInt(next());
+            recorded.add(new Call(question.name(), question.made(), answer));
+        }
+        return recorded;
+    }
+
+    /** Answers to contains(f) at 2f, to rest(f) at 2f + 1. */
+    int[] everyContainsAndRest() {
+        int[] answers = new int[131072];
         for (int f = 0; f < 65536; f++) {
-            if (next().contains(f) != state.contains(f)) {
-                due.is(where + "contains(" + f + ")", !state.contains(f), state.contains(f));
-            }
-            int rest = next().rest(f);
-            if (rest != state.rest(f)) {
-                due.is(where + "rest(" + f + ")", rest, state.rest(f));
+            answers[2 * f] = next().contains(f) ? 1 : 0;
+            answers[2 * f + 1] = next().rest(f);
+        }
+        return answers;
+    }
+
+    void askEveryContainsAndRest(int[] answersDue) {
+        int[] answers = everyContainsAndRest();
+        for (int k = 0; k < answers.length; k++) {
+            if (answers[k] != answersDue[k]) {
+                String call = (k % 2 == 0 ? "contains(" : "rest(") + k / 2 + ")";
+                due.is(where + call, answers[k], answersDue[k]);
             }
         }
     }

@@ -57,6 +57,7 @@ public final class TermsEdgesTest {
         State five = longRun(505).add(8).add(6).add(0).add(278).add(4096).remove(3);
         // With 511 calls before, each question is the 512th on an object of its own.
         supply(due, five).ask(five.questions());
+        supply(due, five).ask(five.questionsOutside());
         supply(due, five).ask(List.of(new Call("add(3)", x -> x.add(3), 3)));
         supply(due, five).ask(List.of(Call.of("remove(5)", x -> x.remove(5), true)));
         supply(due, five).ask(List.of(Call.of("remove(3)", x -> x.remove(3), false)));
