@@ -54,5 +54,8 @@ public final class EveryIdealTest {
         DUE.is(after + "rest(" + multiple + ")", x.rest(multiple), 0);
         int beside = multiple ^ 1 << (f & 15);
         DUE.is(after + "contains(" + beside + ")", x.contains(beside), ideal.contains(beside));
+        for (int m = 0; m < 16; m++) {
+            DUE.is(after + "rest(" + (1 << m) + ")", x.rest(1 << m), ideal.rest(1 << m));
+        }
     }
 }

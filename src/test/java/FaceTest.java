@@ -2,7 +2,6 @@ import java.lang.reflect.Constructor;
 import java.lang.reflect.Field;
 import java.lang.reflect.Method;
 import java.lang.reflect.Modifier;
-import java.util.Arrays;
 import java.util.HashSet;
 import java.util.List;
 import java.util.Set;
@@ -84,9 +83,17 @@ public final class FaceTest {
     }
 
     private static void checkPrivateNames(Class<?> program) {
-        Set<String> seen = new HashSet<>();
-        for (Method method : Arrays.asList(program.getDeclaredMethods())) {
-            DUE.is("the only method of its name: " + method.getName(), seen.add(method.getName()), true);
+        Set<String> publicNames = new HashSet<>();
+        for (Method method : program.getDeclaredMethods()) {
+            if (Modifier.isPublic(method.getModifiers())) {
+                publicNames.add(method.getName());
+            }
+        }
+        for (Method method : program.getDeclaredMethods()) {
+            if (Modifier.isPrivate(method.getModifiers())) {
+                boolean taken = publicNames.contains(method.getName());
+                DUE.is("bears the name of a public method: " + method.getName(), taken, false);
+            }
         }
     }
 }

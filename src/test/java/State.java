@@ -63,8 +63,41 @@ final class State {
         throw new IllegalStateException("there are six");
     }
 
+    /** Makes any call, refused or not, and gives it back with the answer that is due. */
+    Call make(String method, int n) {
+        return switch (method) {
+            case "add" -> makeAdd(n);
+            case "remove" -> makeRemove(n);
+            default -> question(method, n);
+        };
+    }
+
+    private Call makeAdd(int f) {
+        if (!isPolynomial(f)) {
+            return new Call("add(" + f + ")", x -> x.add(f), -1);
+        }
+        if (isFull()) {
+            return new Call("add(" + f + ")", x -> x.add(f), -2);
+        }
+        add(f);
+        return steps.get(steps.size() - 1);
+    }
+
+    private Call makeRemove(int i) {
+        if (!holds(i)) {
+            return Call.of("remove(" + i + ")", x -> x.remove(i), false);
+        }
+        remove(i);
+        return steps.get(steps.size() - 1);
+    }
+
     String name() {
         return name;
+    }
+
+    /** The polynomial of each number, or -1 where there is none: all that answers depend on. */
+    List<Integer> held() {
+        return Arrays.stream(held).boxed().toList();
     }
 
     /** The calls that lead here. */
